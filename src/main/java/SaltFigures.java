@@ -83,8 +83,7 @@ public final class SaltFigures {
     private static final int[] MONTHS = {31, 28, 31, 30, 31, 30, 31, 31, 30, 31, 30, 31};
 
     private final Port port;
-    private final Port picture;
-    private boolean pictured;
+    private Port picture;
     private final Days course;
     private final Figures thought;
     private final Thinker thinker;
@@ -95,15 +94,11 @@ public final class SaltFigures {
 
     public SaltFigures() {
         port = new Port();
-        picture = new Port();
         course = new Days(port);
         thought = new Figures(true);
         thinker = new Thinker(port.told);
         reader = new Reader();
         kept = new Figures[KEPT];
-        for (int i = 0; i < KEPT; i++) {
-            kept[i] = new Figures(false);
-        }
     }
 
     public int state(int v) {
@@ -482,20 +477,19 @@ public final class SaltFigures {
         }
         nextKept = (nextKept + KEPT - 1) % KEPT;
         undoable--;
-        Figures latest = keptAt(nextKept);
-        if (latest != null) {
-            port.figures.copyFrom(latest);
-        }
+        port.figures.copyFrom(keptAt(nextKept));
         return true;
     }
 
     public boolean image(boolean taken) {
         if (taken) {
+            if (picture == null) {
+                picture = new Port();
+            }
             picture.copyFrom(port);
-            pictured = true;
             return true;
         }
-        if (!pictured) {
+        if (picture == null) {
             return false;
         }
         port.copyFrom(picture);
@@ -540,16 +534,20 @@ public final class SaltFigures {
     }
 
     private void keep() {
-        Figures spare = keptAt(nextKept);
-        if (spare != null) {
-            spare.copyFrom(port.figures);
-        }
+        keptAt(nextKept).copyFrom(port.figures);
         nextKept = (nextKept + 1) % KEPT;
         undoable = Math.min(undoable + 1, KEPT);
     }
 
+    /** Made when first wanted, since most objects keep little. */
     private Figures keptAt(int i) {
-        return i >= 0 && i < kept.length ? kept[i] : null;
+        if (i < 0 || i >= kept.length) {
+            return port.figures;
+        }
+        if (kept[i] == null) {
+            kept[i] = new Figures(false);
+        }
+        return kept[i];
     }
 
     private void forget() {
@@ -732,7 +730,7 @@ public final class SaltFigures {
     /** THE LAW as lines of code for a stack: each entry an operation and a number. */
     private static final class Law {
         private static final int NUMBERS = 10000;
-        private static final int DEEPEST = 64;
+        private static final int DEEPEST = 32;
         int lines;
         private int size;
         final int[] word = new int[TEXT_LINES];
@@ -1140,13 +1138,14 @@ public final class SaltFigures {
     /** The TAPE, its tokens, and what a text on it says; the first FAULT met is the first by its place. */
     private static final class Reader {
         private static final int BYTES = 20;
+        private static final int LONGEST_NUMBER = 4;
         private final int[] tape = new int[TAPE];
         private int length;
-        private final int[] kinds = new int[TAPE + 1];
-        private final int[] values = new int[TAPE + 1];
-        private final int[] places = new int[TAPE + 1];
-        private int tokens;
-        private int at;
+        private int limit;
+        private int kind;
+        private int value;
+        private int from;
+        private int to;
         private int persons;
         int fault;
         int place = NONE;
@@ -1174,39 +1173,45 @@ public final class SaltFigures {
             return true;
         }
 
-        /** The TAPE becomes tokens and is empty, whatever is made of them. */
+        /** The TAPE is empty from here on, whatever is made of it: its bytes are read up to the limit. */
         void open(int count) {
             persons = count;
+            limit = length;
+            length = 0;
             fault = 0;
             place = NONE;
             lines = 0;
-            at = 0;
-            scan();
-            length = 0;
+            to = 0;
+            next();
         }
 
-        private void scan() {
-            tokens = 0;
-            int from = 0;
-            while (from < length) {
-                int to = from + 1;
-                int c = tape[from];
-                if (isDigit(c)) {
-                    while (to < length && isDigit(tape[to])) {
-                        to++;
-                    }
-                    putToken(to - from > 4 ? NOTHING : NUMBER, numberOf(from, to), from);
-                } else if (isLetter(c)) {
-                    while (to < length && isLetter(tape[to])) {
-                        to++;
-                    }
-                    putToken(keyword(from, to), 0, from);
-                } else if (c != ' ' && c != '\n') {
-                    putToken(SIGNS.indexOf((char) c) >= 0 ? c : NOTHING, 0, from);
-                }
-                from = to;
+        /** Goes on to the next token; behind a FAULT there is none, so that the reading runs out by itself. */
+        private void next() {
+            from = to;
+            while (from < limit && (tape[from] == ' ' || tape[from] == '\n')) {
+                from++;
             }
-            putToken(THE_END, 0, length);
+            to = from;
+            if (from >= limit || fault != 0) {
+                kind = THE_END;
+                return;
+            }
+            int c = tape[from];
+            to++;
+            if (isDigit(c)) {
+                value = c - '0';
+                for (; to < limit && isDigit(tape[to]); to++) {
+                    value = value * 10 + tape[to] - '0';
+                }
+                kind = to - from > LONGEST_NUMBER ? NOTHING : NUMBER;
+            } else if (isLetter(c)) {
+                while (to < limit && isLetter(tape[to])) {
+                    to++;
+                }
+                kind = keyword();
+            } else {
+                kind = SIGNS.indexOf((char) c) >= 0 ? c : NOTHING;
+            }
         }
 
         private static boolean isDigit(int c) {
@@ -1217,15 +1222,7 @@ public final class SaltFigures {
             return c >= 'a' && c <= 'z' || c >= 'A' && c <= 'Z';
         }
 
-        private int numberOf(int from, int to) {
-            int number = 0;
-            for (int i = from; i < to && i < from + 4 && i < TAPE; i++) {
-                number = number * 10 + tape[i] - '0';
-            }
-            return number;
-        }
-
-        private int keyword(int from, int to) {
+        private int keyword() {
             int token = 1;
             int i = from;
             boolean alike = true;
@@ -1245,47 +1242,34 @@ public final class SaltFigures {
             return NOTHING;
         }
 
-        private void putToken(int kind, int value, int where) {
-            if (tokens < kinds.length) {
-                kinds[tokens] = kind;
-                values[tokens] = value;
-                places[tokens] = where;
-                tokens++;
-            }
-        }
-
-        /** Behind a FAULT all is at its end, so that the reading runs out by itself. */
-        private int kind() {
-            return fault == 0 && at >= 0 && at < tokens && at < kinds.length ? kinds[at] : THE_END;
-        }
-
         private void fail(int what) {
-            if (fault == 0 && at >= 0 && at < places.length) {
+            if (fault == 0) {
                 fault = what;
-                place = places[at];
+                place = from;
             }
+            kind = THE_END;
         }
 
         private void take(int token) {
-            if (kind() == token) {
-                at++;
+            if (kind == token) {
+                next();
             } else {
                 fail(1);
             }
         }
 
         private int number(int least, int most, int unlike) {
-            if (kind() != NUMBER || at >= values.length) {
+            if (kind != NUMBER) {
                 fail(1);
                 return NONE;
             }
-            int value = values[at];
             if (value < least || value > most || value == unlike) {
                 fail(2);
                 return NONE;
             }
-            at++;
-            return value;
+            int number = value;
+            next();
+            return number;
         }
 
         /** The number of a PERSON that there is, another than that one. */
@@ -1294,10 +1278,10 @@ public final class SaltFigures {
         }
 
         private boolean begins(int token) {
-            if (kind() == THE_END) {
+            if (kind == THE_END) {
                 return false;
             }
-            if (kind() != token) {
+            if (kind != token) {
                 fail(1);
                 return false;
             }
@@ -1305,7 +1289,7 @@ public final class SaltFigures {
                 fail(3);
                 return false;
             }
-            at++;
+            next();
             return true;
         }
 
@@ -1341,13 +1325,14 @@ public final class SaltFigures {
         void readWeather() {
             for (int i = 0; i <= TEXT_LINES && begins(ON); i++) {
                 int day = number(0, 999, NONE);
-                int what = kind();
+                int what = kind;
                 int person = NONE;
                 int n = NONE;
-                if (what != WET_WORD && what != CATTLE && what != FEAST && what != SCOLD && what != DIE) {
+                if (what == WET_WORD || what == CATTLE || what == FEAST || what == SCOLD || what == DIE) {
+                    next();
+                } else {
                     fail(1);
                 }
-                take(what);
                 if (what == SCOLD || what == DIE) {
                     person = whom(NONE);
                 }
@@ -1363,7 +1348,7 @@ public final class SaltFigures {
         void readLaw() {
             law.clear();
             for (int i = 0; i <= TEXT_LINES; i++) {
-                int word = kind();
+                int word = kind;
                 boolean known = word == SPILLS || word == THROWS || word == RUNS;
                 if (!begins(known ? word : SPILLS)) {
                     return;
@@ -1371,8 +1356,8 @@ public final class SaltFigures {
                 law.begin(word);
                 sum();
                 law.sumEnds();
-                if (kind() == WHEN) {
-                    at++;
+                if (kind == WHEN) {
+                    next();
                     condition(0);
                 }
                 law.lineEnds();
@@ -1384,9 +1369,9 @@ public final class SaltFigures {
         private void condition(int open) {
             boolean waits = false;
             comparison(open);
-            for (int i = 0; i < TAPE && (kind() == AND || kind() == OR); i++) {
-                boolean and = kind() == AND;
-                at++;
+            for (int i = 0; i < TAPE && (kind == AND || kind == OR); i++) {
+                boolean and = kind == AND;
+                next();
                 if (!and && waits) {
                     law.emit(OR, 0);
                 }
@@ -1402,12 +1387,12 @@ public final class SaltFigures {
         }
 
         private void comparison(int open) {
-            int sign = kind();
+            int sign = kind;
             if (sign != NOT && sign != '(') {
                 sum();
-                sign = kind();
+                sign = kind;
                 if (sign == '<' || sign == '=' || sign == '>') {
-                    at++;
+                    next();
                     sum();
                     law.emit(sign, 0);
                 } else {
@@ -1416,11 +1401,11 @@ public final class SaltFigures {
             } else if (open >= OPEN_AT_MOST) {
                 fail(3);
             } else if (sign == NOT) {
-                at++;
+                next();
                 comparison(open + 1);
                 law.emit(NOT, 0);
             } else {
-                at++;
+                next();
                 condition(open + 1);
                 take(')');
             }
@@ -1431,16 +1416,16 @@ public final class SaltFigures {
             int waits = NONE;
             operand();
             for (int i = 0; i < TAPE; i++) {
-                int sign = kind();
+                int sign = kind;
                 if (sign == '*') {
-                    at++;
+                    next();
                     operand();
                     law.emit(sign, 0);
                 } else if (sign == '/') {
-                    at++;
+                    next();
                     law.emit(sign, number(1, 9999, NONE));
                 } else if (sign == '+' || sign == '-') {
-                    at++;
+                    next();
                     if (waits != NONE) {
                         law.emit(waits, 0);
                     }
@@ -1456,13 +1441,13 @@ public final class SaltFigures {
         }
 
         private void operand() {
-            int token = kind();
-            if (token == NUMBER && at < values.length) {
-                law.emit(NUMBER, values[at]);
-                at++;
+            int token = kind;
+            if (token == NUMBER) {
+                law.emit(NUMBER, value);
+                next();
             } else if (token >= FIRST_WORD && token < FIRST_WORD + WORDS) {
                 law.emit(token, 0);
-                at++;
+                next();
             } else {
                 fail(1);
             }
@@ -1564,11 +1549,12 @@ public final class SaltFigures {
     private static final class Thinker {
         static final int HEAVIEST = 360;
         static final int LONGEST = 200;
-        private static final int ROOM = 400;
+        private static final int ROOM = 361;
+        private static final int SHORT = 32;
         private static final int STEEP = 3;
         private final Told told;
         private final int[] scratch = new int[ROOM];
-        private final int[] other = new int[ROOM];
+        private final int[] other = new int[SHORT];
 
         Thinker(Told told) {
             this.told = told;
@@ -1739,7 +1725,7 @@ public final class SaltFigures {
         }
 
         int tellFirst() {
-            for (int i = 0; i < told.first.size && i < ROOM; i++) {
+            for (int i = 0; i < told.first.size && i < SHORT; i++) {
                 other[i] = told.first.at(i);
             }
             return tellShortly(told.first.size);
@@ -1754,7 +1740,7 @@ public final class SaltFigures {
             other[0] = 1;
             for (int i = 0; i < times; i++) {
                 size = tellShortly(size);
-                System.arraycopy(scratch, 0, other, 0, ROOM);
+                System.arraycopy(scratch, 0, other, 0, Math.max(0, Math.min(size, SHORT)));
             }
             return size;
         }
@@ -1763,9 +1749,9 @@ public final class SaltFigures {
         private int tellShortly(int size) {
             int count = 0;
             int often = 0;
-            for (int i = 0; i < size && i < ROOM; i++) {
+            for (int i = 0; i < size && i < SHORT; i++) {
                 often++;
-                boolean last = i + 1 >= size || i + 1 >= ROOM || other[i + 1] != other[i];
+                boolean last = i + 1 >= size || i + 1 >= SHORT || other[i + 1] != other[i];
                 if (last && count + 1 < ROOM) {
                     scratch[count] = often;
                     scratch[count + 1] = other[i];
