@@ -2,8 +2,26 @@
 final class Checks {
     private static int asked = 0;
     private static int wrong = 0;
+    private static int sentences = 0;
+    private static String sentence = "";
+
+    /** A call that answers with a number. */
+    interface Call {
+        long made();
+    }
+
+    /** A call that answers whether. */
+    interface Question {
+        boolean made();
+    }
 
     private Checks() {
+    }
+
+    /** The sentence of the document that the calls from here on are about; it stands ahead of what is not as due. */
+    static void says(String words) {
+        sentence = "\"" + words + "\" ";
+        sentences++;
     }
 
     static void due(String call, long got, long want) {
@@ -11,9 +29,20 @@ final class Checks {
         if (got != want) {
             wrong++;
             if (wrong <= 40) {
-                System.out.println(call + " answered " + got + ", due is " + want);
+                System.out.println(sentence + call + " answered " + got + ", due is " + want);
             }
         }
+    }
+
+    /** A call that is refused: what it answers, and that all stays as it was. */
+    static void refused(SaltFigures x, String call, Call made, long want) {
+        String was = Sight.of(x);
+        due(call, made.made(), want);
+        due(call + " changes nothing", Sight.of(x).equals(was), true);
+    }
+
+    static void refused(SaltFigures x, String call, Question made) {
+        refused(x, call, () -> made.made() ? 1 : 0, 0);
     }
 
     static void due(String call, boolean got, boolean want) {
@@ -25,7 +54,8 @@ final class Checks {
     }
 
     static void finish() {
-        System.out.println(wrong == 0 ? asked + " answers are as due" : wrong + " of " + asked + " answers are not as due");
+        String about = sentences == 0 ? "" : ", of " + sentences + " sentences";
+        System.out.println(wrong == 0 ? asked + " answers are as due" + about : wrong + " of " + asked + " answers are not as due");
         if (wrong > 0 || asked == 0) {
             System.exit(1);
         }
