@@ -436,6 +436,22 @@ public final class DayBoundsTest {
             due("goes(1, " + what + ")", x.goes(1, what), -1);
             due("goes(60, " + what + ")", x.goes(60, what), -1);
         }
+        says("SALT of all, RUN, SPILT of all, LICKED of all then");
+        SaltFigures y = Checks.withPersons(2, 3, 5);
+        Checks.tell(y, 0, "spills 1000 when belief=2;spills 0;runs 6;", 3);
+        Checks.tell(y, 2, "on 1 cattle 7;on 2 cattle 4;", 2);
+        y.act(1, 1, 15);
+        y.set(1, 1, 300);
+        y.set(1, 2, 100);
+        y.days(1);
+        int[][] all = {{414, 6, 1, 0}, {421, 12, 2, 7}, {431, 18, 3, 11}};
+        for (int what = 0; what < 4; what++) {
+            due("goes(1, " + what + ") behind a DAY", y.goes(1, what), all[1][what]);
+            due("goes(2, " + what + ") behind a DAY", y.goes(2, what), all[2][what]);
+        }
+        due("SALT of all now", y.of(0, 1) + y.of(1, 1) + y.of(2, 1), all[0][0]);
+        due("look(3) now", y.look(3), all[0][1]);
+        says("GOES for n (1 .. 60) DAYS");
         due("goes(1, 3)", x.goes(1, 3), 3);
         due("goes(59, 3)", x.goes(59, 3), 3);
         due("goes(60, 3)", x.goes(60, 3), 4);

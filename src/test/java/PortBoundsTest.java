@@ -15,6 +15,7 @@ public final class PortBoundsTest {
         settingSalt();
         settingWet();
         actingWhat();
+        actingAlone();
         spilling();
         sitting();
         rising();
@@ -136,6 +137,9 @@ public final class PortBoundsTest {
         due("spills 0, no DRAW", spiltWith(0, 0), 0);
         due("a DRAW of 0, spills 1", spiltWith(1, 0), 1);
         due("a DRAW of 1, spills 1", spiltWith(1, 1 << 8), 0);
+        due("a DRAW of 2, spills 1", spiltWith(1, 2 << 8), 0);
+        due("a DRAW of 999, spills 1", spiltWith(1, 999 << 8), 0);
+        due("a DRAW of 0, spills 1000", spiltWith(1000, 0), 1);
         due("a DRAW of 998, spills 999", spiltWith(999, 998 << 8), 1);
         due("a DRAW of 999, spills 999", spiltWith(999, 999 << 8), 0);
         due("a DRAW of 999, spills 1000", spiltWith(1000, 999 << 8), 1);
@@ -175,7 +179,21 @@ public final class PortBoundsTest {
             Checks.refused(x, "person(" + b + ") of sixteen", () -> x.person(b), -1);
         }
         due("look(0)", x.look(0), 16);
-        due("of(16, 0)", x.of(16, 0), -2);
+        for (int p : new int[] {MIN, -1, 16, 17, MAX}) {
+            for (int what = 0; what <= 10; what++) {
+                due("of(" + p + ", " + what + ") of sixteen", x.of(p, what), -2);
+            }
+            for (int what = 0; what <= 4; what++) {
+                int w = what;
+                Checks.refused(x, "act(" + w + ", " + p + ", 1) of sixteen", () -> x.act(w, p, 1));
+            }
+            Checks.refused(x, "set(0, " + p + ", 1) of sixteen", () -> x.set(0, p, 1));
+            Checks.refused(x, "set(1, " + p + ", 1) of sixteen", () -> x.set(1, p, 1));
+            Checks.refused(x, "high(" + p + ", 1) of sixteen", () -> x.high(p, 1), -1);
+        }
+        due("set(1, 14, 9)", x.set(1, 14, 9), true);
+        due("of(14, 1)", x.of(14, 1), 9);
+        due("look(6)", x.look(6), 14);
     }
 
     private static SaltFigures threeOneDead() {
@@ -258,6 +276,33 @@ public final class PortBoundsTest {
             due("act(2, 0, " + v + ")", y.act(2, 0, v), true);
             due("act(3, 0, " + v + ")", y.act(3, 0, v), true);
             due("act(4, 0, " + v + ")", y.act(4, 0, v), true);
+        }
+    }
+
+    private static void actingAlone() {
+        says("5: for PERSON who (ALIVE) to SPILL, .. to SIT .., to RISE .., to SWEEP .., to DIE (each alone)");
+        int[][] then = {{57, 1, 50, 1, -1}, {7, 0, 0, 1, 3}, {7, 0, 0, 1, -1}, {0, 0, 0, 1, -1}, {0, 0, 0, 0, -1}};
+        int[] fields = {1, 2, 3, 5, 6};
+        for (int what = 0; what <= 4; what++) {
+            SaltFigures x = Checks.withPersons(5, 6);
+            x.set(1, 0, 7);
+            x.set(1, 1, 8);
+            x.act(1, 1, 9);
+            if (what == 2) {
+                x.act(1, 0, 3);
+            }
+            due("act(" + what + ", 0, 3)", x.act(what, 0, 3), true);
+            for (int i = 0; i < 5; i++) {
+                due("of(0, " + fields[i] + ") behind act(" + what + ", 0, 3)", x.of(0, fields[i]), then[what][i]);
+            }
+            due("look(23) behind act(" + what + ", 0, 3)", x.look(23), what == 1 ? 0 : -1);
+            due("look(4) behind act(" + what + ", 0, 3)", x.look(4), what >= 3 ? 7 : 0);
+            due("look(7) behind act(" + what + ", 0, 3)", x.look(7), what == 1 || what == 2 ? 0 : 1);
+            due("of(1, 1), another PERSON", x.of(1, 1), 8);
+            due("of(1, 6), another PERSON", x.of(1, 6), 9);
+            due("look(3)", x.look(3), 0);
+            due("look(5)", x.look(5), 0);
+            due("look(8)", x.look(8), 0);
         }
     }
 

@@ -19,6 +19,7 @@ public final class TextBoundsTest {
         digits();
         blanksAndSigns();
         theEnd();
+        missingTokens();
         firstFault();
         partByNothing();
         tableNumbers();
@@ -26,6 +27,7 @@ public final class TextBoundsTest {
         heirNumbers();
         noPersons();
         seventeenLines();
+        sixteenthLine();
         nineOpen();
         closedOnes();
         lawHeld();
@@ -33,6 +35,8 @@ public final class TextBoundsTest {
         lawTowardsNothing();
         lawComparisons();
         lawFirstLine();
+        lawLastLine();
+        lawWords();
         lawSeats();
         lawHeirs();
         tableSeats();
@@ -355,6 +359,39 @@ public final class TextBoundsTest {
         }
     }
 
+    private static void missingTokens() {
+        says("FAULT 1: what can't stand there (; in the place of each, each left out, each twice)");
+        SaltFigures x = Checks.withPersons(1, 1);
+        String[][] whole = {{"runs", "1", "+", "1", "when", "1", "<", "2", ";"}, {"seat", "0", "person", "0", ";"},
+            {"on", "0", "wet", "1", ";"}, {"on", "0", "cattle", "1", ";"}, {"on", "0", "feast", ";"}, {"on", "0", "scold", "0", "5", ";"},
+            {"on", "0", "die", "0", ";"}, {"person", "0", "heir", "1", ";"}};
+        int[] texts = {0, 1, 2, 2, 2, 2, 2, 3};
+        int[] ends = {2, 4, 8};
+        for (int t = 0; t < whole.length; t++) {
+            for (int i = 0; i < whole[t].length; i++) {
+                StringBuilder cut = new StringBuilder();
+                for (int j = 0; j < i; j++) {
+                    cut.append(whole[t][j]).append(' ');
+                }
+                int place = cut.length();
+                // THE LAW's line may end behind each sum and behind each comparison
+                boolean end = whole[t][i].equals(";") || t == 0 && (i == ends[0] || i == ends[1] || i == ends[2]);
+                if (end) {
+                    tell(x, texts[t], cut + ";", 1);
+                } else {
+                    refuse(x, texts[t], cut + ";", 1, place);
+                    refuse(x, texts[t], cut + "heirsheir ;", 1, place);
+                }
+                String twice = cut + whole[t][i] + " " + whole[t][i] + " ;";
+                if (twice.equals("on 0 scold 0 0 ;")) {
+                    tell(x, 2, twice, 1);
+                } else {
+                    refuse(x, texts[t], twice, 1, place + whole[t][i].length() + 1);
+                }
+            }
+        }
+    }
+
     private static void firstFault() {
         says("FAULTS, the first by its place");
         SaltFigures x = Checks.withPersons(1, 1);
@@ -503,6 +540,34 @@ public final class TextBoundsTest {
         }
         for (String word : new String[] {"spills", "throws", "runs"}) {
             refuse(x, 0, LINES[0].repeat(16) + word + " 1;", 3, 112);
+        }
+    }
+
+    private static void sixteenthLine() {
+        says("16 lines of each at most (the 16th is told, too)");
+        SaltFigures x = sixteen();
+        StringBuilder table = new StringBuilder();
+        StringBuilder heirs = new StringBuilder();
+        StringBuilder weather = new StringBuilder();
+        for (int i = 0; i < 16; i++) {
+            table.append("seat ").append(15 - i).append(" person ").append(i).append(';');
+            heirs.append("person ").append(i).append(" heir ").append((i + 1) % 16).append(';');
+            weather.append("on ").append(i).append(i % 2 == 0 ? " wet " + i / 2 : " scold " + i + " " + i / 2).append(';');
+        }
+        tell(x, 1, table.toString(), 16);
+        tell(x, 3, heirs.toString(), 16);
+        tell(x, 2, weather.toString(), 16);
+        for (int i = 0; i < 16; i++) {
+            due("look(" + (35 - i) + ")", x.look(35 - i), i);
+            due("of(" + i + ", 10)", x.of(i, 10), (i + 1) % 16);
+        }
+        for (int day = 0; day < 16; day++) {
+            x.days(1);
+            if (day % 2 == 0) {
+                due("look(2) behind DAY " + day, x.look(2), day / 2);
+            } else {
+                due("of(" + day + ", 0) behind DAY " + day, x.of(day, 0), day / 2);
+            }
         }
     }
 
@@ -669,6 +734,43 @@ public final class TextBoundsTest {
         due("none of spills", x.of(0, 7), 500);
     }
 
+    private static void lawLastLine() {
+        says("E of the first line with that word whose B is so (of 16 lines)");
+        SaltFigures x = Checks.withPersons(5);
+        String fifteen = "throws 7 when 1=2;".repeat(15);
+        tell(x, 0, fifteen + "throws 1+2*3*2-1+2 when 1+1=2 and (1=2 or 2=1+1*1);", 16);
+        due("the 16th, with the longest sums", x.of(0, 8), 14);
+        tell(x, 0, fifteen + "throws 5 when (1=2 or (1=2 or (1=2 or (1=2 or (1=2 or (1=2 or (1=2 or (1<1*1+1))))))));", 16);
+        due("the 16th, with eight open", x.of(0, 8), 5);
+        tell(x, 0, "throws 1 when (1=2 or 1=1 and (1=2 or 1=1 and (1=2 or 1=1 and (1=2 or 1=1 and (1=2 or 1=1 and (1=2 or 1=1 and (1=2"
+                + " or 1=1 and (1=2 or 1=1 and 7=1+2*3))))))));", 1);
+        due("eight open, each behind or and and", x.of(0, 8), 1);
+    }
+
+    private static void lawWords() {
+        says("What THE LAW tells of a PERSON: belief, salt, seat, spilt, thrown, licked: his; wet; beside; heirs; day");
+        SaltFigures x = Checks.withPersons(7, 2, 3);
+        tell(x, 3, "person 1 heir 0;person 2 heir 0;", 2);
+        tell(x, 0, "spills 0;throws 11;", 2);
+        tell(x, 2, "on 0 cattle 3;", 1);
+        x.act(0, 0, 0);
+        x.act(0, 0, 0);
+        x.set(1, 0, 900);
+        x.act(1, 0, 5);
+        x.act(1, 1, 6);
+        x.set(1, 1, 56);
+        x.days(1);
+        x.set(2, 0, 4);
+        String[] words = {"belief", "salt", "wet", "seat", "spilt", "thrown", "licked", "beside", "heirs", "day"};
+        int[] his = {7, 897, 4, 5, 2, 22, 3, 56, 2, 1};
+        int[] others = {3, 0, 4, -1, 0, 0, 0, 0, 0, 1};
+        for (int i = 0; i < 10; i++) {
+            tell(x, 0, "throws " + words[i] + "+1;", 1);
+            due(words[i] + "+1", x.of(0, 8), his[i] + 1);
+            due(words[i] + "+1 of another", x.of(2, 8), others[i] + 1);
+        }
+    }
+
     private static void lawSeats() {
         says("seat (NONE: -1)");
         SaltFigures x = Checks.withPersons(5, 5, 5);
@@ -680,6 +782,11 @@ public final class TextBoundsTest {
             x.act(2, 0, 0);
         }
         says("beside: SALT of who has the next greater SEAT number just beside his (nobody, no SEAT: 0)");
+        tell(x, 0, "throws beside+10;", 1);
+        due("no SEAT, nobody at 0", x.of(0, 8), 10);
+        x.act(1, 0, 7);
+        due("at 7, nobody at 8", x.of(0, 8), 10);
+        x.act(2, 0, 0);
         tell(x, 0, "throws beside;", 1);
         x.set(1, 0, 7);
         x.set(1, 1, 500);
@@ -719,6 +826,11 @@ public final class TextBoundsTest {
         due("of several the last", x.of(3, 8), 1);
         tell(x, 3, "person 1 heir 2;person 1 heir 2;", 2);
         due("told twice", x.of(2, 8), 1);
+        tell(x, 3, "person 0 heir 2;person 15 heir 2;", 2);
+        due("of the first and the last one", x.of(2, 8), 2);
+        tell(x, 3, "person 0 heir 15;person 1 heir 15;", 2);
+        due("of the last one", x.of(15, 8), 2);
+        tell(x, 3, "person 1 heir 2;person 1 heir 2;", 2);
         tell(x, 3, "", 0);
         due("of nobody", x.of(2, 8), 0);
         due("of(1, 10)", x.of(1, 10), -1);

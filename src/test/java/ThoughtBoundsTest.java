@@ -44,6 +44,7 @@ public final class ThoughtBoundsTest {
         falling();
         lyingThen();
         games();
+        inAnyOrder();
         Checks.finish();
     }
 
@@ -143,6 +144,12 @@ public final class ThoughtBoundsTest {
         for (int[] d : ahead) {
             due("week(" + d[0] + ", " + d[1] + ", " + d[2] + ", 0)", x.week(d[0], d[1], d[2], 0), d[3]);
         }
+        int[][] first = {{1601, 1}, {1605, 6}, {1700, 5}, {1701, 6}, {1705, 4}, {1800, 3}, {1801, 4}, {1805, 2}, {1900, 1}, {1901, 2},
+            {1904, 5}, {1905, 0}, {2000, 6}, {2001, 1}, {2004, 4}, {2005, 6}, {2025, 3}, {2100, 5}, {2101, 6}, {2200, 3}, {2201, 4},
+            {2300, 1}, {2301, 2}, {2399, 5}, {2400, 6}};
+        for (int[] f : first) {
+            due("week(" + f[0] + ", 1, 1, 0)", x.week(f[0], 1, 1, 0), f[1]);
+        }
         x.date(2400, 12, 31);
         due("the date told does not matter", x.week(1600, 1, 1, 0), 6);
     }
@@ -175,6 +182,10 @@ public final class ThoughtBoundsTest {
         due("week(1600, 1, 2, 2)", x.week(1600, 1, 2, 2), 1);
         due("week(1600, 12, 31, 2)", x.week(1600, 12, 31, 2), 365);
         due("week(2400, 12, 31, 2)", x.week(2400, 12, 31, 2), 292559);
+        for (int y = 1600; y < 2400; y++) {
+            due("a year of days from " + y, x.week(y + 1, 1, 1, 2) - x.week(y, 1, 1, 2), length(y, 2) + 337);
+            due("a day at the end of " + y, x.week(y + 1, 1, 1, 2) - x.week(y, 12, 31, 2), 1);
+        }
         x.date(2400, 12, 31);
         due("from the last, week(2400, 12, 31, 2)", x.week(2400, 12, 31, 2), 0);
         due("from the last, week(2400, 12, 30, 2)", x.week(2400, 12, 30, 2), -1);
@@ -278,6 +289,10 @@ public final class ThoughtBoundsTest {
         hull(1, 0, -99, 99);
         hull(2, 0, 0, 0, 0, 1);
         hull(2, 0, -99, -99, 99, 99);
+        hullTurned(2, 0, 7, 9, -3, 5);
+        hullTurned(2, 0, -7, 9, 3, 5);
+        hullTurned(2, 0, -7, -9, -3, 5);
+        hullTurned(2, 0, 1, 5, 2, 9, 4, 17);
         hull(2, 0, 0, 0, 0, 1, 0, 2);
         hull(2, 0, 5, 0, 1, 0, 3, 0);
         hull(2, 0, 3, 3, 1, 1, 2, 2, 0, 0, 4, 4, 7, 7, 6, 6, 5, 5);
@@ -285,7 +300,31 @@ public final class ThoughtBoundsTest {
         hull(3, 1, 0, 0, 1, 0, 0, 1);
     }
 
+    /** The same points, told from each of them on, and from behind. */
+    private static void hullTurned(int corners, int area, int... xy) {
+        for (int from = 0; from < xy.length; from += 2) {
+            int[] on = new int[xy.length];
+            int[] back = new int[xy.length];
+            for (int i = 0; i < xy.length; i += 2) {
+                int at = (from + i) % xy.length;
+                on[i] = xy[at];
+                on[i + 1] = xy[at + 1];
+                back[xy.length - 2 - i] = xy[at];
+                back[xy.length - 1 - i] = xy[at + 1];
+            }
+            hull(corners, area, on);
+            hull(corners, area, back);
+        }
+    }
+
     private static void hullOfMany() {
+        says("HULL: (points on its edges are no corners), in whatever order they are told");
+        hullTurned(3, 4, 1, 0, 0, 0, 2, 0, 1, 2);
+        hullTurned(3, 16, 0, 0, 2, 0, 4, 0, 3, 2, 2, 4, 1, 2, 2, 1);
+        hullTurned(4, 8, 0, 0, 1, 0, 2, 0, 2, 1, 2, 2, 1, 2, 0, 2, 0, 1);
+        hullTurned(4, 8, 0, 1, 1, 0, 3, 2, 2, 3, 1, 1, 2, 2, 1, 2);
+        hullTurned(3, 12, -3, -1, 3, -1, 0, 1, 0, 0, 0, -1);
+        hullTurned(2, 0, -5, -5, 0, 0, 5, 5, 3, 3, -99, -99);
         says("how many of them are corners of the least bulging outline about all (points on its edges are no corners)");
         hull(3, 4, 0, 0, 2, 0, 0, 2, 1, 1, 1, 0, 0, 1);
         hull(4, 78408, -99, -99, 99, -99, 99, 99, -99, 99);
@@ -678,6 +717,33 @@ public final class ThoughtBoundsTest {
         due("voyage(7, 0) of 3, 5", x.voyage(7, 0), 0);
         due("voyage(7, 1) of 3, 5", x.voyage(7, 1), -1);
         due("voyage(9, 1) of 3, 5, not by the longest first", x.voyage(9, 1), 3);
+        says("the fewest days, in whatever order the lengths are told");
+        int[][] orders = {{1, 2, 3}, {1, 3, 2}, {2, 1, 3}, {2, 3, 1}, {3, 1, 2}, {3, 2, 1}};
+        for (int[] order : orders) {
+            SaltFigures y = new SaltFigures();
+            int[] lengths = {0, 1, 10, 11};
+            for (int i : order) {
+                y.stage(lengths[i]);
+            }
+            for (int l = 1; l <= 200; l++) {
+                int fewest = l;
+                for (int tens = 0; tens * 10 <= l; tens++) {
+                    for (int elevens = 0; tens * 10 + elevens * 11 <= l; elevens++) {
+                        fewest = Math.min(fewest, l - 9 * tens - 10 * elevens);
+                    }
+                }
+                due("voyage(" + l + ", 1) of 1, 10, 11", y.voyage(l, 1), fewest);
+            }
+        }
+        for (int turn = 0; turn < 2; turn++) {
+            SaltFigures y = new SaltFigures();
+            y.stage(1 + turn);
+            y.stage(2 - turn);
+            due("voyage(1, 1) of 1, 2", y.voyage(1, 1), 1);
+            due("voyage(2, 1) of 1, 2", y.voyage(2, 1), 1);
+            due("voyage(3, 1) of 1, 2", y.voyage(3, 1), 2);
+            due("voyage(200, 1) of 1, 2", y.voyage(200, 1), 100);
+        }
     }
 
     private static void voyageModulo() {
@@ -867,6 +933,60 @@ public final class ThoughtBoundsTest {
         heaped(most, falls, 2, 4, 6, 8, 10, 12, 14, 16);
         heaped(new int[] {0, 0, 0, 0, 0, 0, 0, 99}, 384, 2, 4, 6, 8, 10, 12, 14, 16);
         heaped(new int[] {0, 0, 0, 0, 0, 0, 0, 0}, 0, 0, 0, 0, 0, 0, 0, 0, 0);
+    }
+
+    private static long thought(SaltFigures x, int which) {
+        return switch (which) {
+            case 0 -> x.weighs(-1);
+            case 1 -> x.weighs(7);
+            case 2 -> x.shadow(0);
+            case 3 -> x.shadow(1);
+            case 4 -> x.told(0);
+            case 5 -> x.told(103);
+            case 6 -> x.told(210);
+            case 7 -> x.voyage(200, 0);
+            case 8 -> x.voyage(200, 1);
+            case 9 -> x.voyage(7, 0);
+            case 10 -> x.voyage(1, 1);
+            case 11 -> x.heaped(0);
+            case 12 -> x.heaped(3);
+            case 13 -> x.drips(-1);
+            case 14 -> x.drips(10000);
+            case 15 -> x.hull(0);
+            case 16 -> x.hull(1);
+            case 17 -> x.light(60, 0, 2);
+            case 18 -> x.light(60, 1, 0);
+            case 19 -> x.told(120);
+            default -> x.heaped(4);
+        };
+    }
+
+    private static void inAnyOrder() {
+        says("IN THOUGHT (nothing of it stays): each answers the same, whatever was thought ahead of it");
+        int thoughts = 21;
+        for (int told = 0; told < 2; told++) {
+            SaltFigures x = new SaltFigures();
+            for (int i = 0; i < 3 * told; i++) {
+                x.weight(3 + 4 * i);
+                x.row(0, 5 + i / 2);
+                x.row(1, 6);
+                x.drip(4 + i);
+                x.stage(2 + 3 * i);
+                x.post(4 + i, 9 - i);
+                x.heap(40 + 20 * i);
+                x.point(i * i, i);
+            }
+            long[] alone = new long[thoughts];
+            for (int i = 0; i < thoughts; i++) {
+                alone[i] = thought(x, i);
+            }
+            for (int ahead = 0; ahead < thoughts; ahead++) {
+                for (int i = 0; i < thoughts; i++) {
+                    thought(x, ahead);
+                    due("the " + i + "-th behind the " + ahead + "-th", thought(x, i), alone[i]);
+                }
+            }
+        }
     }
 
     private static void games() {

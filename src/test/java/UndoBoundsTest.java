@@ -25,6 +25,8 @@ public final class UndoBoundsTest {
         imageOfNothing();
         imageMoreThanOnce();
         imageHoldsAll();
+        imageOfTexts();
+        imageOfThoughts();
         imageWithoutTape();
         imageWithoutUndo();
         imageOfTheFull();
@@ -542,6 +544,79 @@ public final class UndoBoundsTest {
         thoughts(x, true);
         due("post, the second", x.post(1, 1), 2);
         due("row(1, 1), the second", x.row(1, 1), 2);
+    }
+
+    private static void imageOfTexts() {
+        says("THE IMAGE: all that is and was told (THE LAW, TABLE, WEATHER, HEIRS, line by line)");
+        SaltFigures x = Checks.withPersons(1, 2, 3);
+        Checks.tell(x, 0, "spills 0;throws 5+heirs when belief<3;throws 9;", 3);
+        Checks.tell(x, 2, "on 0 wet 7;on 1 feast;on 2 die 2;", 3);
+        Checks.tell(x, 3, "person 0 heir 1;person 2 heir 1;", 2);
+        x.act(1, 0, 3);
+        x.image(true);
+        String was = Sight.told(x);
+        Checks.tell(x, 0, "runs 1;spills 1000 when 1=1;throws 3 when wet=0 or 1=2;", 3);
+        Checks.tell(x, 1, "seat 3 person 1;seat 4 person 2;", 2);
+        Checks.tell(x, 2, "on 5 cattle 1;on 5 cattle 1;on 5 cattle 1;on 5 cattle 1;", 4);
+        Checks.tell(x, 3, "person 1 heir 2;person 0 heir 2;person 2 heir 0;", 3);
+        x.days(1);
+        x.image(false);
+        due("all is as it was", Sight.told(x).equals(was), true);
+        due("of(0, 8)", x.of(0, 8), 5);
+        due("of(1, 8), heirs", x.of(1, 8), 7);
+        due("of(2, 8)", x.of(2, 8), 9);
+        due("of(0, 10)", x.of(0, 10), 1);
+        due("of(1, 10)", x.of(1, 10), -1);
+        due("days(3)", x.days(3), 1);
+        due("look(2)", x.look(2), 7);
+        due("of(0, 3), at the feast", x.of(0, 3), 5);
+        due("look(1), one died", x.look(1), 3);
+        int[] lines = {3, 0, 3, 2};
+        for (int k = 0; k < 4; k++) {
+            due("look(" + (9 + k) + ")", x.look(9 + k), lines[k]);
+        }
+    }
+
+    private static void imageOfThoughts() {
+        says("THE IMAGE: all that was told (for thought, number by number)");
+        for (int times = 0; times < 3; times++) {
+            SaltFigures x = new SaltFigures();
+            for (int taken = 0; taken <= times; taken++) {
+                emptyThoughts(x);
+                x.date(1999 + taken, 5, 5);
+                for (int i = 0; i < 3; i++) {
+                    x.point(i * i, i * (i + taken));
+                    x.weight(5 + i * i + taken);
+                    x.row(0, 3 + i + taken);
+                    x.row(1, 3 + i + taken);
+                    x.drip(7 + 2 * i + taken);
+                    x.stage(3 + i * i + taken);
+                    x.post(20 + i + taken, 9 + 2 * i);
+                    x.heap(30 + 9 * i + taken);
+                }
+                x.image(true);
+            }
+            String was = Sight.of(x);
+            emptyThoughts(x);
+            x.image(false);
+            due("all is as it was, emptied meanwhile", Sight.of(x).equals(was), true);
+            for (int i = 0; i < 8; i++) {
+                emptyThoughts(x);
+                for (int k = 0; k <= i; k++) {
+                    x.point(50 + k, k * k);
+                    x.weight(60 - k);
+                    x.row(0, 9 - k);
+                    x.row(1, 9 - k);
+                    x.drip(30 - k);
+                    x.stage(20 - k);
+                    x.post(90 + k, 60);
+                    x.heap(99 - k);
+                }
+                due("other numbers", Sight.of(x).equals(was), false);
+                x.image(false);
+                due("all is as it was, with " + (i + 1) + " told meanwhile", Sight.of(x).equals(was), true);
+            }
+        }
     }
 
     private static void imageWithoutTape() {
